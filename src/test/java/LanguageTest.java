@@ -1,0 +1,86 @@
+import java.io.IOException;
+import java.nio.charset.StandardCharsets;
+import java.nio.file.Files;
+import java.nio.file.Path;
+import java.util.List;
+import java.util.Set;
+import java.util.regex.Matcher;
+import java.util.regex.Pattern;
+
+/** Those rules of LANGUAGE.md that can be seen in the text of the program; it is run from the project's root. */
+final class LanguageTest {
+    private static final Path SOURCE = Path.of("src/main/java/GatePolynomials.java");
+
+    /** Words and signs that the rules leave out, by rule. */
+    private static final String[][] LEFT_OUT = {
+        {"1", "\\bpackage\\b|\\bprotected\\b"},
+        {"3", "->|::|\\bvar\\b|\\bfloat\\b|\\bdouble\\b|\\bObject\\b"},
+        {"4", "\\bMap\\b|\\bSet\\b|\\bOptional\\b|\\bstream\\b|\\bprintln\\b|Exact\\b|\\bString\\.format\\b"},
+        {"5", "\\bstatic\\s*\\{"},
+        {"6", "\\bsynchronized\\b|\\bassert\\b|\\bfinally\\b|\\btry\\b|\\bcatch\\b|\\bhashCode\\b|\\btoString\\b"},
+        {"13", "\\bRandom\\b|currentTimeMillis|nanoTime|\\bThread\\b|\\bFile\\b|getenv|getProperty"},
+    };
+
+    private static final Set<String> LIBRARY = Set.of("java.util.Arrays", "java.util.NoSuchElementException");
+
+    private static final Set<String> EXCEPTIONS = Set.of("IllegalStateException", "IllegalArgumentException",
+            "IndexOutOfBoundsException", "ArithmeticException", "UnsupportedOperationException",
+            "NoSuchElementException", "RuntimeException");
+
+    private LanguageTest() {
+    }
+
+    public static void main(String[] args) throws IOException {
+        List<String> lines = Files.readAllLines(SOURCE, StandardCharsets.US_ASCII);
+        String code = withoutComments(String.join("\n", lines));
+        for (String[] rule : LEFT_OUT) {
+            Matcher found = Pattern.compile(rule[1]).matcher(withoutTexts(code));
+            boolean none = !found.find();
+            Due.that("rule " + rule[0] + (none ? "" : ": " + found.group()), none);
+        }
+        dueImports(code);
+        dueThrows(code);
+        dueMethodLengths(lines);
+        Due.end();
+    }
+
+    private static void dueImports(String code) {
+        Matcher imports = Pattern.compile("\\bimport\\s+([\\w.*]+);").matcher(code);
+        while (imports.find()) {
+            Due.that("rule 4: import " + imports.group(1), LIBRARY.contains(imports.group(1)));
+        }
+    }
+
+    private static void dueThrows(String code) {
+        Matcher thrown = Pattern.compile("\\bthrow\\b(?: new (\\w+)\\((\"[^\"]*\")?\\);)?").matcher(code);
+        while (thrown.find()) {
+            Due.that("rule 6: " + thrown.group(),
+                    thrown.group(1) != null && EXCEPTIONS.contains(thrown.group(1)));
+        }
+    }
+
+    /** Methods of the class stand four signs in, those of the classes inside it eight. */
+    private static void dueMethodLengths(List<String> lines) {
+        for (String margin : new String[] {"    ", "        "}) {
+            int start = -1;
+            for (int i = 0; i < lines.size(); i++) {
+                String line = lines.get(i);
+                if (line.startsWith(margin) && line.charAt(margin.length()) != ' ' && line.endsWith(") {")) {
+                    start = i;
+                }
+                if (line.equals(margin + "}") && start >= 0) {
+                    Due.that("rule 11: " + lines.get(start).trim(), i - start < 60);
+                    start = -1;
+                }
+            }
+        }
+    }
+
+    private static String withoutComments(String text) {
+        return text.replaceAll("(?s)/\\*.*?\\*/", " ").replaceAll("//[^\n]*", " ");
+    }
+
+    private static String withoutTexts(String code) {
+        return code.replaceAll("\"[^\"\n]*\"", "\"\"");
+    }
+}
