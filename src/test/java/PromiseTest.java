@@ -555,6 +555,13 @@ final class PromiseTest {
         many.spoil(1, 64 + 40, -1);
         Due.answer("check, mended", 3, many::check);
 
+        GatePolynomials first = new GatePolynomials();
+        first.gate(AND, 1, 1, 0);
+        first.add(1, 1);
+        first.prove();
+        first.spoil(1, 0, 1);
+        Due.answer("check looks at the line of wire 1", 1, first::check);
+
         GatePolynomials inputs = withInputs(2);
         inputs.add(3, 4);
         inputs.prove();
