@@ -1,7 +1,19 @@
+import java.util.NoSuchElementException;
+
 /** What the tests share: a call is held against the answer or the exception that is due, and counted. */
 final class Due {
+    static final Class<IllegalArgumentException> ARGUMENT = IllegalArgumentException.class;
+    static final Class<IllegalStateException> STATE = IllegalStateException.class;
+    static final Class<IndexOutOfBoundsException> INDEX = IndexOutOfBoundsException.class;
+    static final Class<ArithmeticException> ARITHMETIC = ArithmeticException.class;
+    static final Class<NoSuchElementException> NO_ELEMENT = NoSuchElementException.class;
+
+    private static final int MOST_TOLD = 20;
+
+    private static String test = "";
     private static int right = 0;
     private static int wrong = 0;
+    private static int toldInTest = 0;
 
     interface Call {
         long answer();
@@ -10,8 +22,26 @@ final class Due {
     private Due() {
     }
 
+    /** Runs a test under its name: what it finds wrong bears the name, and so does a throw that nobody awaited. */
+    static void inTest(String name, Runnable body) {
+        test = name + ": ";
+        toldInTest = 0;
+        int before = right + wrong;
+        try {
+            body.run();
+        } catch (RuntimeException e) {
+            count("the test itself", e.toString(), "no exception");
+        }
+        count("the test holds something", Boolean.toString(right + wrong > before), "true");
+        test = "";
+    }
+
     static void that(String what, boolean holds) {
         count(what, Boolean.toString(holds), "true");
+    }
+
+    static void same(String what, String want, String got) {
+        count(what, got, want);
     }
 
     static void answer(String call, long want, Call made) {
@@ -20,11 +50,6 @@ final class Due {
 
     static void thrown(String call, Class<? extends RuntimeException> want, Call made) {
         count(call, outcome(made), want.getName());
-    }
-
-    /** The outcome that is due is given as outcome tells it. */
-    static void outcomeIs(String call, String want, Call made) {
-        count(call, outcome(made), want);
     }
 
     /** The answer in digits, or the name of the exception's class. */
@@ -49,8 +74,9 @@ final class Due {
             return;
         }
         wrong++;
-        if (wrong <= 50) {
-            System.out.println(what + " answered " + got + ", due is " + want);
+        toldInTest++;
+        if (toldInTest <= MOST_TOLD) {
+            System.out.println(test + what + " answered " + got + ", due is " + want);
         }
     }
 }

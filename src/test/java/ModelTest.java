@@ -195,7 +195,7 @@ final class ModelTest {
 
     private void hold(String name, String call, Due.Call real, Due.Call wanted) {
         String want = Due.outcome(wanted);
-        Due.outcomeIs(run + ": " + call, want, real);
+        Due.same(run + ": " + call, want, Due.outcome(real));
         reach(name + " " + nameOf(want));
         if (name.equals("check") && want.equals(Integer.toString(model.lines()))) {
             reach("check all");
