@@ -40,8 +40,13 @@ final class Due {
         count(what, Boolean.toString(holds), "true");
     }
 
+    /** Of long texts only the place is told where they begin to differ. */
     static void same(String what, String want, String got) {
-        count(what, got, want);
+        int from = 0;
+        while (from < want.length() && from < got.length() && want.charAt(from) == got.charAt(from)) {
+            from++;
+        }
+        count(what, excerpt(got, from), excerpt(want, from));
     }
 
     static void answer(String call, long want, Call made) {
@@ -66,6 +71,12 @@ final class Due {
         if (wrong > 0 || right == 0) {
             System.exit(1);
         }
+    }
+
+    private static String excerpt(String text, int middle) {
+        int from = middle > 60 ? middle - 40 : 0;
+        int to = Math.min(text.length(), middle + 60);
+        return (from > 0 ? ".. " : "") + text.substring(from, to) + (to < text.length() ? " .." : "");
     }
 
     private static void count(String what, String got, String want) {
