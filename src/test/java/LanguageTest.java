@@ -31,6 +31,12 @@ final class LanguageTest {
     private static final Set<String> LIBRARY = Set.of("java.util.Arrays", "java.util.ArrayList", "java.util.List",
             "java.util.Iterator", "java.util.NoSuchElementException");
 
+    /** Of rule 4's static functions those that it names; their like are put here when they are used. */
+    private static final Set<String> FUNCTIONS = Set.of("System.arraycopy", "Arrays.copyOf", "Arrays.copyOfRange",
+            "Arrays.fill", "List.of", "Integer.compare", "Integer.max", "Integer.min", "Integer.abs",
+            "Integer.bitCount", "Long.compare", "Long.max", "Long.min", "Long.abs", "Long.bitCount", "Math.max",
+            "Math.min", "Math.abs", "Math.floorDiv", "Math.floorMod");
+
     private static final Set<String> EXCEPTIONS = Set.of("IllegalStateException", "IllegalArgumentException",
             "IndexOutOfBoundsException", "ArithmeticException", "UnsupportedOperationException",
             "NoSuchElementException", "RuntimeException");
@@ -46,6 +52,7 @@ final class LanguageTest {
             Due.same("rule " + rule[0], "", found.find() ? found.group() : "");
         }
         dueImports(code);
+        dueFunctions(withoutTexts(code));
         dueThrows(code);
         dueMethodLengths(lines);
         dueSizes();
@@ -56,6 +63,13 @@ final class LanguageTest {
         Matcher imports = Pattern.compile("\\bimport\\s+([\\w.*]+);").matcher(code);
         while (imports.find()) {
             Due.that("rule 4: import " + imports.group(1), LIBRARY.contains(imports.group(1)));
+        }
+    }
+
+    private static void dueFunctions(String code) {
+        Matcher functions = Pattern.compile("\\b(?:System|Arrays|List|Integer|Long|Math|String)\\.\\w+").matcher(code);
+        while (functions.find()) {
+            Due.that("rule 4: " + functions.group(), FUNCTIONS.contains(functions.group()));
         }
     }
 

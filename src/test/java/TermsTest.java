@@ -65,6 +65,8 @@ final class TermsTest {
         all.test("instead of its own value that which its gate makes of the values of the others",
                 "a polynomial without the wire", TermsTest::eliminateWhatIsNotThere);
         all.test("instead of its own value that which its gate makes of the values of the others",
+                "inputs made after the gate, up to wire 9", TermsTest::eliminateBelowLaterInputs);
+        all.test("instead of its own value that which its gate makes of the values of the others",
                 "a monomial with the wire and its gate's", TermsTest::eliminateBesideItsGate);
         all.test("instead of its own value that which its gate makes of the values of the others",
                 "monomials that meet and vanish", TermsTest::eliminateToNothing);
@@ -468,6 +470,22 @@ final class TermsTest {
         x.add(0, 4);
         x.prove();
         Circuits.dueLine(x, 1, 2, -1, 1, 3, 0, 4);
+        Due.answer("check()", 2, x::check);
+    }
+
+    private static void eliminateBelowLaterInputs() {
+        GatePolynomials x = Circuits.withInputs(2);
+        x.gate(AND, 3, 4, 0);
+        for (int wire = 4; wire <= 9; wire++) {
+            x.input();
+        }
+        x.add(511, 9);
+        x.add(256 + 4, 2);
+        x.add(256, 3);
+        x.add(256 + 128, 5);
+        x.add(8, 7);
+        Due.answer("prove()", 5, x::prove);
+        Circuits.dueLine(x, 1, 256 + 128, 5, 256 + 3, -2, 256 + 2, 2, 256, 3, 8, 7);
         Due.answer("check()", 2, x::check);
     }
 
